@@ -157,6 +157,12 @@ public final class PromisesTest {
         due("drop()", x.drop(), 1);
         due("drop()", x.drop(), 0);
         due("drop()", x.drop(), NONE);
+        // Each position loses its move to it: then player 1 has no move at 1, and so loses.
+        x = game("010", "02 12 22 01");
+        due("winning(3)", x.winning(3), 0);
+        due("drop()", x.drop(), 2);
+        due("winning(3)", x.winning(3), 3);
+        due("goodMoves(3, 0)", x.goodMoves(3, 0), 2);
         x = game("0000000000", "09 99");
         due("drop()", x.drop(), 9);
         due("position(1)", x.position(1), 9);
