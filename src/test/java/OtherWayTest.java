@@ -342,11 +342,14 @@ public final class OtherWayTest {
         }
     }
 
-    /** One object through a long run of changes, with questions between them. */
+    /**
+     * One object through a long run of changes, with questions between them. Two calls a round and at most
+     * 211 at the end keep within the 512 calls for which the document promises anything.
+     */
     private static void compareRun() {
         clear();
         EndlessPlays x = new EndlessPlays();
-        for (int call = 0; call < 500; call++) {
+        for (int round = 0; round < 150; round++) {
             change(x);
             int goal = number(9);
             due("winning(" + goal + ")", x.winning(goal), otherWinning(goal));
@@ -356,7 +359,7 @@ public final class OtherWayTest {
 
     public static void main(String[] args) {
         compareSmallest();
-        for (int round = 0; round < 100; round++) {
+        for (int round = 0; round < 400; round++) {
             compareRun();
         }
         for (int round = 0; round < 12000; round++) {
